@@ -63,12 +63,11 @@ public final class ModelTest {
         int shape = pick(KEY_SHAPES);
         for (int i = 0; i < 400; i++) {
             // A fair draw would seldom get as far as many runs or many reads.
-            int draw = pick(60);
-            boolean feeding = model.level() < 0;
-            if (feeding && draw < 55) {
-                putBoth(key(shape, i), EDGES[pick(EDGES.length)]);
-            } else if (draw < 8) {
+            int draw = pick(100);
+            if (draw < 8) {
                 call(draw);
+            } else if (model.level() < 0) {
+                putBoth(key(shape, i), EDGES[pick(EDGES.length)]);
             } else {
                 call(model.level() > 0 ? 2 + draw % 2 : 4 + draw % 3);
             }
