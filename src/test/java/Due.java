@@ -2,22 +2,39 @@
 final class Due {
     private static final int MOST_PRINTED = 50;
 
+    private String test = "";
     private int wrong = 0;
     private int asked = 0;
 
+    /** Names the test whose answers come next. */
+    void begin(String name) {
+        test = name + ": ";
+    }
+
     void is(String call, long got, long want) {
         asked++;
-        if (got == want) {
-            return;
-        }
-        wrong++;
-        if (wrong <= MOST_PRINTED) {
-            System.out.println(call + " answered " + got + ", due is " + want);
+        if (got != want) {
+            report(call + " answered " + got + ", due is " + want);
         }
     }
 
     void holds(String claim, boolean so) {
-        is(claim, so ? 1 : 0, 1);
+        asked++;
+        if (!so) {
+            report("it is not so that " + claim);
+        }
+    }
+
+    void failed(String how) {
+        asked++;
+        report(how);
+    }
+
+    private void report(String what) {
+        wrong++;
+        if (wrong <= MOST_PRINTED) {
+            System.out.println(test + what);
+        }
     }
 
     int wrong() {
