@@ -137,16 +137,21 @@ abstract class Part {
     }
 
     static void sameAnswers(Due due, String name, PolyphaseSort one, PolyphaseSort other) {
-        for (Getter getter : Getter.values()) {
-            sameAnswers(due, name, getter, one, other);
-        }
+        same(due, name, one, other, Getter.values());
     }
 
-    static void sameAnswers(Due due, String name, Getter getter, PolyphaseSort one, PolyphaseSort other) {
+    private static void sameAnswers(Due due, String name, Getter getter, PolyphaseSort one, PolyphaseSort other) {
         int[] got = getter.ask(one);
         int[] want = getter.ask(other);
         due.holds(name + ": " + getter + " is " + shortened(want) + ", not " + shortened(got),
                 Arrays.equals(got, want));
+    }
+
+    /** These getters answer for the one as they do for the other. */
+    static void same(Due due, String name, PolyphaseSort one, PolyphaseSort other, Getter... getters) {
+        for (Getter getter : getters) {
+            sameAnswers(due, name, getter, one, other);
+        }
     }
 
     private static String shortened(int[] answers) {

@@ -115,7 +115,7 @@ final class Promise03 extends Part {
             for (int records = 0; records <= 20; records++) {
                 PolyphaseSort x = finished(fed(3, cells, 20, falling(records)));
                 due.is("front()", x.front(), NONE);
-                while (x.level() > 0) {
+                for (int i = 0; i < 100 && x.level() > 0; i++) {
                     x.mergeOne();
                     due.is("front() while merging", x.front(), NONE);
                 }
@@ -252,8 +252,6 @@ final class Promise03 extends Part {
 
     private static void staysThrough(Due due, Situation situation) {
         PolyphaseSort x = finished(situation.made());
-        sameAnswers(due, situation.name(), Getter.COUNT, x, situation.made());
-        sameAnswers(due, situation.name(), Getter.RUNS, x, situation.made());
-        sameAnswers(due, situation.name(), Getter.FIELD, x, situation.made());
+        same(due, situation.name(), x, situation.made(), Getter.COUNT, Getter.RUNS, Getter.FIELD);
     }
 }

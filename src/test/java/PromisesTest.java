@@ -7,7 +7,9 @@ import java.util.List;
 /** Runs every test of every promise: each method that bears words of the document. */
 public final class PromisesTest {
     static final List<Class<?>> PARTS = List.of(
-            WhatItIs.class, Promise01.class, Promise02.class, Promise03.class);
+            WhatItIs.class, Promise01.class, Promise02.class, Promise03.class,
+            Promise04.class, Promise05.class, Promise06.class, Promise07.class, Promise08.class,
+            Promise09.class);
 
     public static void main(String[] args) throws IllegalAccessException {
         Due due = new Due();

@@ -3,11 +3,16 @@ import java.util.List;
 import java.util.function.Supplier;
 
 /** A way to bring a new object to some point of its life; every making goes the same way. */
-record Situation(String name, Supplier<PolyphaseSort> maker) {
+record Situation(String name, int[] sizes, Supplier<PolyphaseSort> maker) {
     private static final int[][] SIZES = {{3, 2, 8}, {4, 2, 8}, {3, 2, 64}, {4, 3, 20}, {3, 8, 11}};
 
     PolyphaseSort made() {
         return maker.get();
+    }
+
+    /** An object of the same sizes to which nothing has been done. */
+    PolyphaseSort fresh() {
+        return new PolyphaseSort(sizes[0], sizes[1], sizes[2]);
     }
 
     static List<Situation> feed() {
@@ -87,7 +92,8 @@ record Situation(String name, Supplier<PolyphaseSort> maker) {
     }
 
     private static void add(List<Situation> all, int[] sizes, String how, Supplier<PolyphaseSort> maker) {
-        all.add(new Situation("(" + sizes[0] + ", " + sizes[1] + ", " + sizes[2] + ") " + how, maker));
+        String name = "(" + sizes[0] + ", " + sizes[1] + ", " + sizes[2] + ") " + how;
+        all.add(new Situation(name, sizes, maker));
     }
 
     /** Falling keys, so that every W records make a run, but every fifth the same as before. */

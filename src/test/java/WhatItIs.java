@@ -72,7 +72,7 @@ final class WhatItIs extends Part {
         }
         hasRunNumbers(due, "fed", x, numbers);
         hasRunNumbers(due, "finished", finished(x), numbers);
-        while (x.level() > 0) {
+        for (int i = 0; i < 100 && x.level() > 0; i++) {
             x.mergeOne();
             hasRunNumbers(due, "merged", x, numbers);
         }
