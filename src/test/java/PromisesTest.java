@@ -9,7 +9,8 @@ public final class PromisesTest {
     static final List<Class<?>> PARTS = List.of(
             WhatItIs.class, Promise01.class, Promise02.class, Promise03.class,
             Promise04.class, Promise05.class, Promise06.class, Promise07.class, Promise08.class,
-            Promise09.class);
+            Promise09.class, Promise10.class, Promise11.class, Promise12.class, Promise13.class,
+            Promise14.class, Promise15.class, Promise16.class, Promise17.class);
 
     public static void main(String[] args) throws IllegalAccessException {
         Due due = new Due();
