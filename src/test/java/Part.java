@@ -1,5 +1,6 @@
 import java.util.Arrays;
 import java.util.List;
+import java.util.function.Supplier;
 import java.util.function.ToIntFunction;
 
 /** What the tests of the promises share. The numbers stand here as the document gives them. */
@@ -118,39 +119,45 @@ abstract class Part {
             String name = situation.name() + ": " + call;
             due.is(name, made.applyAsInt(x), answer);
             due.is(name + " again", made.applyAsInt(x), answer);
-            Twins.alike(due, name, x, situation.made());
+            Twins.alike(due, name, () -> afterCall(situation, made), situation::made);
         }
+    }
+
+    private static PolyphaseSort afterCall(Situation situation, ToIntFunction<PolyphaseSort> call) {
+        PolyphaseSort x = situation.made();
+        call.applyAsInt(x);
+        return x;
     }
 
     static void changesNothing(Due due, Getter getter) {
         for (Situation situation : Situation.any()) {
-            String name = situation.name() + ": " + getter;
-            sameAnswers(due, name, asked(situation, getter), situation.made());
-            Twins.alikeWithoutGetters(due, name, asked(situation, getter), situation.made());
+            unchanged(due, situation.name() + ": " + getter, () -> asked(situation, getter), situation::made);
         }
     }
 
-    private static PolyphaseSort asked(Situation situation, Getter getter) {
+    /** Each getter is asked of its own two objects, as it might do itself what is looked for. */
+    static void unchanged(Due due, String name, Supplier<PolyphaseSort> one, Supplier<PolyphaseSort> other) {
+        for (Getter getter : Getter.values()) {
+            same(due, name, one.get(), other.get(), getter);
+        }
+        Twins.alikeWithoutGetters(due, name, one, other);
+    }
+
+    static PolyphaseSort asked(Situation situation, Getter... getters) {
         PolyphaseSort x = situation.made();
-        getter.ask(x);
+        for (Getter getter : getters) {
+            getter.ask(x);
+        }
         return x;
-    }
-
-    static void sameAnswers(Due due, String name, PolyphaseSort one, PolyphaseSort other) {
-        same(due, name, one, other, Getter.values());
-    }
-
-    private static void sameAnswers(Due due, String name, Getter getter, PolyphaseSort one, PolyphaseSort other) {
-        int[] got = getter.ask(one);
-        int[] want = getter.ask(other);
-        due.holds(name + ": " + getter + " is " + shortened(want) + ", not " + shortened(got),
-                Arrays.equals(got, want));
     }
 
     /** These getters answer for the one as they do for the other. */
     static void same(Due due, String name, PolyphaseSort one, PolyphaseSort other, Getter... getters) {
         for (Getter getter : getters) {
-            sameAnswers(due, name, getter, one, other);
+            int[] got = getter.ask(one);
+            int[] want = getter.ask(other);
+            due.holds(name + ": " + getter + " is " + shortened(want) + ", not " + shortened(got),
+                    Arrays.equals(got, want));
         }
     }
 

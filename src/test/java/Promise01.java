@@ -107,15 +107,20 @@ final class Promise01 extends Part {
 
     @Says("T, W and the capacity never change afterwards.")
     static void theSizesStayThroughEveryStage(Due due) {
-        PolyphaseSort x = new PolyphaseSort(4, 3, 10);
-        for (int round = 0; round < 3; round++) {
-            putAll(x, falling(8 + round));
-            due.is("tape 3 when finished", finished(x).runsOn(3), 0);
-            due.is("tape 4 when finished", x.runsOn(4), NONE);
-            afterReads(x, round);
-            hasSizes(due, "round " + round, x, 4, 3, 10);
-            x.clear();
+        for (int records = 0; records <= 10; records++) {
+            staysThroughARound(due, new PolyphaseSort(4, 3, 10), records, 4, 3, 10);
+            staysThroughARound(due, new PolyphaseSort(3, 8, 10), records, 3, 8, 10);
         }
+    }
+
+    private static void staysThroughARound(Due due, PolyphaseSort x, int records, int... sizes) {
+        putAll(x, falling(records));
+        x.put(MIN, 0);
+        due.holds("there is a tape T-1 when finished", finished(x).runsOn(sizes[0] - 1) != NONE);
+        due.is("runsOn(T) when finished", x.runsOn(sizes[0]), NONE);
+        afterReads(x, 3);
+        due.is("runsOn(T) when read", x.runsOn(sizes[0]), NONE);
+        hasSizes(due, records + " records", x, sizes[0], sizes[1], sizes[2]);
     }
 
     @Says("At the start the workspace is empty,")

@@ -7,6 +7,9 @@ final class Promise03 extends Part {
         PolyphaseSort x = finished(fed(3, 2, 8, 3, 2, 1));
         due.is("put() after it", x.put(4, 4), WRONG);
         due.is("count() after it", x.count(), 3);
+        PolyphaseSort y = finished(fed(3, 2, 8, 1, 2, 3));
+        due.is("put() after it with one run", y.put(4, 4), WRONG);
+        due.is("count() after it with one run", y.count(), 3);
     }
 
     @Says("If the stage is not FEED: answers `WRONG`, nothing changes.")

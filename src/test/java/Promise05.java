@@ -1,3 +1,5 @@
+import java.util.function.ToIntFunction;
+
 /** Tests of promise 5: mergePhase. */
 final class Promise05 extends Part {
     private static final int MOST_RUNS = 32;
@@ -29,11 +31,21 @@ final class Promise05 extends Part {
                     due.is("mergeOne() " + i, x.mergeOne(), OK);
                 }
                 due.is("mergePhase() after " + begun, x.mergePhase(), PHASE);
-                PolyphaseSort whole = finished(withRuns(tapes, 32));
-                whole.mergePhase();
-                Twins.alike(due, "T = " + tapes + ", begun by " + begun, x, whole);
+                int times = begun;
+                int number = tapes;
+                Twins.alike(due, "T = " + tapes + ", begun by " + begun,
+                        () -> phaseBegunBy(number, times), () -> phaseBegunBy(number, 0));
             }
         }
+    }
+
+    private static PolyphaseSort phaseBegunBy(int tapes, int merges) {
+        PolyphaseSort x = finished(withRuns(tapes, 32));
+        for (int i = 0; i < merges; i++) {
+            x.mergeOne();
+        }
+        x.mergePhase();
+        return x;
     }
 
     @Says("If the stage is not MERGE: answers `WRONG`, nothing changes.")
@@ -60,7 +72,16 @@ final class Promise05 extends Part {
         for (int i = 0; i < phases; i++) {
             due.is(name, whole.mergePhase(), mergeOnes(single));
         }
-        Twins.alike(due, name, whole, single);
+        Twins.alike(due, name, () -> afterPhases(tapes, runs, phases, PolyphaseSort::mergePhase),
+                () -> afterPhases(tapes, runs, phases, Promise05::mergeOnes));
+    }
+
+    private static PolyphaseSort afterPhases(int tapes, int runs, int phases, ToIntFunction<PolyphaseSort> how) {
+        PolyphaseSort x = finished(withRuns(tapes, runs));
+        for (int i = 0; i < phases; i++) {
+            how.applyAsInt(x);
+        }
+        return x;
     }
 
     private static int mergeOnes(PolyphaseSort x) {

@@ -1,3 +1,5 @@
+import java.util.function.Supplier;
+
 /** Tests of promise 7: readFrom. */
 final class Promise07 extends Part {
     private static final int[] KEYS = {40, 10, 30, 20, 20, 50};
@@ -41,13 +43,25 @@ final class Promise07 extends Part {
     static void isTheSameAsReadOverAndOver(Due due) {
         for (int key : new int[] {MIN, MIN + 1, -2, -1, 0, 1, 4, 5, 6, MAX - 2, MAX - 1, MAX}) {
             for (int before = 0; before <= WIDE_KEYS.length + 1; before++) {
-                String name = "readFrom(" + key + ") after " + before;
-                PolyphaseSort x = readWide(before);
-                PolyphaseSort single = readWide(before);
-                due.is(name, x.readFrom(key), reads(single, key));
-                Twins.alike(due, name, x, single);
+                sameAsReads(due, key, before);
             }
         }
+    }
+
+    private static void sameAsReads(Due due, int key, int before) {
+        String name = "readFrom(" + key + ") after " + before;
+        due.is(name, readWide(before).readFrom(key), reads(readWide(before), key));
+        Supplier<PolyphaseSort> one = () -> {
+            PolyphaseSort x = readWide(before);
+            x.readFrom(key);
+            return x;
+        };
+        Supplier<PolyphaseSort> other = () -> {
+            PolyphaseSort x = readWide(before);
+            reads(x, key);
+            return x;
+        };
+        Twins.alike(due, name, one, other);
     }
 
     private static int reads(PolyphaseSort x, int key) {
@@ -167,12 +181,17 @@ final class Promise07 extends Part {
     static void whenAllIsReadNothingChanges(Due due) {
         for (int key : new int[] {MIN, 10, 49, 50, 51, MAX}) {
             for (int before = 6; before <= 7; before++) {
-                PolyphaseSort x = read(before);
-                due.is("readFrom(" + key + ") after all", x.readFrom(key), END);
-                sameAnswers(due, "readFrom(" + key + ") after all", x, read(6));
-                Twins.alike(due, "readFrom(" + key + ") after all", x, read(6));
+                due.is("readFrom(" + key + ") after all", read(before).readFrom(key), END);
+                int times = before;
+                Twins.alike(due, "readFrom(" + key + ") after all", () -> readOnFrom(times, key), () -> read(6));
             }
         }
+    }
+
+    private static PolyphaseSort readOnFrom(int before, int key) {
+        PolyphaseSort x = read(before);
+        x.readFrom(key);
+        return x;
     }
 
     @Says("What `read()` leaves unchanged stays unchanged here too.")

@@ -47,8 +47,15 @@ final class Promise08 extends Part {
             noCurrent(due, "then", x);
             due.is("rewind() twice", x.rewind(), OK);
             noCurrent(due, "then", x);
-            Twins.alike(due, "rewound unread", x, sorted(fed(tapes, 2, 8, 3, 2, 1)));
+            int number = tapes;
+            Twins.alike(due, "rewound unread", () -> rewound(number), () -> sorted(fed(number, 2, 8, 3, 2, 1)));
         }
+    }
+
+    private static PolyphaseSort rewound(int tapes) {
+        PolyphaseSort x = sorted(fed(tapes, 2, 8, 3, 2, 1));
+        x.rewind();
+        return x;
     }
 
     @Says("or there are no records.")

@@ -29,7 +29,24 @@ final class Promise09 extends Part {
             due.is(situation.name() + ": outputTape()", x.outputTape(), NONE);
             due.is(situation.name() + ": runsOn(0)", x.runsOn(0), NONE);
             noCurrent(due, situation.name(), x);
-            Twins.alike(due, situation.name(), x, situation.fresh());
+            Twins.alike(due, situation.name(), () -> cleared(situation), situation::fresh);
+        }
+    }
+
+    private static PolyphaseSort cleared(Situation situation) {
+        PolyphaseSort x = situation.made();
+        x.clear();
+        return x;
+    }
+
+    @Says("the object becomes as it was when fresh (Promise 1),")
+    static void acceptsAgainAfterFull(Due due) {
+        for (Situation situation : Situation.full()) {
+            PolyphaseSort x = situation.made();
+            due.is(situation.name() + ": put()", x.put(1, 1), FULL);
+            x.clear();
+            due.is(situation.name() + ": put() after clear()", x.put(1, 1), OK);
+            due.is(situation.name() + ": count()", x.count(), 1);
         }
     }
 

@@ -56,6 +56,7 @@ record Situation(String name, int[] sizes, Supplier<PolyphaseSort> maker) {
         for (int[] s : SIZES) {
             add(all, s, "SORTED, no records", () -> reads(fed(s, 0), 0));
             add(all, s, "SORTED, no records, read", () -> reads(fed(s, 0), 1));
+            add(all, s, "SORTED, fewer than W", () -> reads(fed(s, s[1] - 1), 1));
             add(all, s, "SORTED, one run", () -> reads(fed(s, s[1]), 0));
             add(all, s, "SORTED, full", () -> reads(fed(s, s[2]), 0));
             add(all, s, "SORTED, partly read", () -> reads(fed(s, s[2]), 3));

@@ -1,4 +1,5 @@
 import java.util.Arrays;
+import java.util.function.Supplier;
 import java.util.function.ToIntFunction;
 
 /**
@@ -24,21 +25,25 @@ final class Twins {
         this.withGetters = withGetters;
     }
 
-    static void alike(Due due, String name, PolyphaseSort one, PolyphaseSort other) {
-        Twins twins = new Twins(due, name, one, other, true);
-        twins.compare("at once");
-        twins.live();
-        due.holds(name + ": the two stay alike", twins.alike);
+    static void alike(Due due, String name, Supplier<PolyphaseSort> one, Supplier<PolyphaseSort> other) {
+        new Twins(due, name, one.get(), other.get(), true).live();
+        new Twins(due, name, one.get(), other.get(), true).fillAndLive();
     }
 
     /** For what a getter may have done: asking the other one with it would hide that. */
-    static void alikeWithoutGetters(Due due, String name, PolyphaseSort one, PolyphaseSort other) {
-        Twins twins = new Twins(due, name, one, other, false);
-        twins.live();
-        due.holds(name + ": the two stay alike", twins.alike);
+    static void alikeWithoutGetters(Due due, String name, Supplier<PolyphaseSort> one,
+            Supplier<PolyphaseSort> other) {
+        new Twins(due, name, one.get(), other.get(), false).live();
+        new Twins(due, name, one.get(), other.get(), false).fillAndLive();
+    }
+
+    private void fillAndLive() {
+        fill();
+        live();
     }
 
     private void live() {
+        compare("at once");
         call("put", x -> x.put(7, 70));
         call("put", x -> x.put(-3, 71));
         call("finish", x -> x.finish());
@@ -55,6 +60,7 @@ final class Twins {
         call("finish", x -> x.finish());
         mergeAll();
         readAll();
+        due.holds(name + ": the two stay alike", alike);
     }
 
     private void fill() {

@@ -192,12 +192,7 @@ final class WhatItIs extends Part {
         + "change nothing"})
     static void noGetterChangesAnything(Due due) {
         for (Situation situation : Situation.any()) {
-            PolyphaseSort x = situation.made();
-            for (Getter getter : Getter.values()) {
-                getter.ask(x);
-            }
-            sameAnswers(due, situation.name(), x, situation.made());
-            Twins.alikeWithoutGetters(due, situation.name(), x, situation.made());
+            unchanged(due, situation.name(), () -> asked(situation, Getter.values()), situation::made);
         }
     }
 
