@@ -10,7 +10,8 @@ enum Getter {
     LEVEL(x -> new int[] {x.level()}),
     RUNS_ON(x -> IntStream.rangeClosed(-2, 6).map(x::runsOn).toArray()),
     OUTPUT_TAPE(x -> new int[] {x.outputTape()}),
-    CURRENT(x -> IntStream.rangeClosed(-2, 6).map(x::current).toArray());
+    // ORIGIN first: it tells the records apart, and no earlier question can have spoilt the answer.
+    CURRENT(x -> IntStream.of(3, 2, 1, 0, -2, -1, 4, 5, 6).map(x::current).toArray());
 
     private static final int ORIGINS = 68;
     private static final int WHATS = 8;

@@ -56,9 +56,18 @@ abstract class Part {
 
     /** The values fall while the origins rise, so that neither can be taken for the other. */
     static void putAll(PolyphaseSort x, int... keys) {
-        for (int key : keys) {
-            x.put(key, 100 - x.count());
+        for (int i = 0; i < keys.length; i++) {
+            x.put(keys[i], 100 - i);
         }
+    }
+
+    /** Records that are alike in key and value are still records of their own. */
+    static PolyphaseSort fedWithOneValue(int tapes, int... keys) {
+        PolyphaseSort x = new PolyphaseSort(tapes, 2, 64);
+        for (int key : keys) {
+            x.put(key, 5);
+        }
+        return x;
     }
 
     static int[] falling(int number) {
@@ -93,10 +102,12 @@ abstract class Part {
         return x;
     }
 
+    /** Asks no getter on the way, so that nothing a getter might do is done already. */
     static PolyphaseSort sorted(PolyphaseSort x) {
         x.finish();
-        for (int i = 0; i < 10 && x.level() > 0; i++) {
-            x.mergePhase();
+        int answer = PHASE;
+        for (int i = 0; i < 10 && answer == PHASE; i++) {
+            answer = x.mergePhase();
         }
         return x;
     }

@@ -84,14 +84,19 @@ final class Promise04 extends Part {
             for (int[] all : shapes) {
                 for (int records = 0; records <= 64; records++) {
                     int[] keys = Arrays.copyOf(all, records);
-                    PolyphaseSort x = finished(fed(tapes, 2, 64, keys));
-                    for (int i = 0; i < 100 && x.level() > 0; i++) {
-                        x.mergeOne();
-                    }
-                    readsOrigins(due, "T = " + tapes + ", " + records + " records", x, resultOf(keys));
+                    reachesTheResult(due, fed(tapes, 2, 64, keys), keys);
+                    reachesTheResult(due, fedWithOneValue(tapes, keys), keys);
                 }
             }
         }
+    }
+
+    private static void reachesTheResult(Due due, PolyphaseSort x, int[] keys) {
+        x.finish();
+        for (int i = 0; i < 100 && x.level() > 0; i++) {
+            x.mergeOne();
+        }
+        readsOrigins(due, keys.length + " records", x, resultOf(keys));
     }
 
     private static int[] zigzag(int number) {

@@ -57,20 +57,11 @@ final class Promise06 extends Part {
     static void equalKeysComeInOrderOfOrigin(Due due) {
         for (int tapes = 3; tapes <= 4; tapes++) {
             readsOrigins(due, "mixed keys", sorted(fed(tapes, 2, 16, KEYS)), resultOf(KEYS));
-            readsOrigins(due, "all the same", sorted(sameValues(tapes, KEYS)), resultOf(KEYS));
+            readsOrigins(due, "all the same", sorted(fedWithOneValue(tapes, KEYS)), resultOf(KEYS));
             for (int key : EXTREMES) {
                 readsOrigins(due, "only " + key, sorted(fed(tapes, 3, 64, alwaysThe(key, 64))), rising(64));
             }
         }
-    }
-
-    /** Records that are alike in key and value are still records of their own. */
-    private static PolyphaseSort sameValues(int tapes, int... keys) {
-        PolyphaseSort x = new PolyphaseSort(tapes, 2, 16);
-        for (int key : keys) {
-            x.put(key, 5);
-        }
-        return x;
     }
 
     @Says("If all of them have been read since the stage became SORTED")
